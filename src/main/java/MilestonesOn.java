@@ -697,11 +697,11 @@ public final class MilestonesOn {
     }
 
     private int standingOf(Row one) {
-        int told = 0;
+        int packed = 0;
         for (int k = 0; k < road.stones; k++) {
-            told = Road.withPost(told, k, one.get(k) == NONE ? Road.LOST : one.get(k));
+            packed = Road.withPost(packed, k, one.get(k) == NONE ? Road.LOST : one.get(k));
         }
-        return told;
+        return packed;
     }
 
     private void tellFraction(int above, int below) {
@@ -801,7 +801,7 @@ public final class MilestonesOn {
         final int[] numbers = new int[MOST];
         final int[] homes = new int[MOST];
         private final int[] waysHome = new int[MOST * SLOTS];
-        private final Walker[] kinds = new Walker[MOST];
+        private final Walker[] folk = new Walker[MOST];
         int posts = 0;
         int stones = 0;
         int walkers = 0;
@@ -847,13 +847,13 @@ public final class MilestonesOn {
 
         void addWalker(Walker one) {
             if (walkers < MOST) {
-                kinds[walkers] = one;
+                folk[walkers] = one;
                 walkers++;
             }
         }
 
         Walker walkerAt(int w) {
-            return w >= 0 && w < walkers ? kinds[w] : null;
+            return w >= 0 && w < walkers ? folk[w] : null;
         }
 
         boolean hasNumber(int number) {
@@ -938,7 +938,7 @@ public final class MilestonesOn {
         int bothWays() {
             int many = 0;
             for (int w = 0; w < walkers; w++) {
-                if (kinds[w] instanceof Both) {
+                if (folk[w] instanceof Both) {
                     many++;
                 }
             }
@@ -948,7 +948,7 @@ public final class MilestonesOn {
         int lameOnes() {
             int many = 0;
             for (int w = 0; w < walkers; w++) {
-                if (kinds[w] instanceof Lame) {
+                if (folk[w] instanceof Lame) {
                     many++;
                 }
             }
