@@ -57,14 +57,9 @@ public final class MilestonesOn {
     }
 
     public int lay(int r, int i, int v) {
-        if (!isBelow(r, ROWS)) {
-            return BAD;
-        }
-        if (rows[r].isMissing()) {
-            return found(NOTHING);
-        }
-        if (!rows[r].has(i)) {
-            return found(BEYOND);
+        int refused = refusePlace(rows, r, i);
+        if (refused != 0) {
+            return refused;
         }
         told = rows[r].get(i);
         rows[r].set(i, v);
@@ -72,25 +67,18 @@ public final class MilestonesOn {
     }
 
     public int at(int r, int i) {
-        if (!isBelow(r, ROWS)) {
-            return BAD;
-        }
-        if (rows[r].isMissing()) {
-            return found(NOTHING);
-        }
-        if (!rows[r].has(i)) {
-            return found(BEYOND);
+        int refused = refusePlace(rows, r, i);
+        if (refused != 0) {
+            return refused;
         }
         told = rows[r].get(i);
         return 1;
     }
 
     public int tear(int r) {
-        if (!isBelow(r, ROWS)) {
-            return BAD;
-        }
-        if (rows[r].isMissing()) {
-            return found(NOTHING);
+        int refused = refuseMissing(rows, r);
+        if (refused != 0) {
+            return refused;
         }
         rows[r].remove();
         return 1;
@@ -114,13 +102,11 @@ public final class MilestonesOn {
     }
 
     public int mean(int r) {
-        if (!isBelow(r, ROWS)) {
-            return BAD;
+        int refused = refuseMissing(rows, r);
+        if (refused != 0) {
+            return refused;
         }
         Row one = rows[r];
-        if (one.isMissing()) {
-            return found(NOTHING);
-        }
         if (one.size == 0) {
             return found(NOUGHT);
         }
@@ -144,14 +130,9 @@ public final class MilestonesOn {
     }
 
     public int put(int t, int i, int v) {
-        if (!isBelow(t, TEXTS)) {
-            return BAD;
-        }
-        if (texts[t].isMissing()) {
-            return found(NOTHING);
-        }
-        if (!texts[t].has(i)) {
-            return found(BEYOND);
+        int refused = refusePlace(texts, t, i);
+        if (refused != 0) {
+            return refused;
         }
         int before = texts[t].get(i);
         texts[t].set(i, (byte) v);
@@ -159,21 +140,17 @@ public final class MilestonesOn {
     }
 
     public int fault(int t) {
-        if (!isBelow(t, TEXTS)) {
-            return BAD;
-        }
-        if (texts[t].isMissing()) {
-            return found(NOTHING);
+        int refused = refuseMissing(texts, t);
+        if (refused != 0) {
+            return refused;
         }
         return new Reader(texts[t]).read();
     }
 
     public int road(int t) {
-        if (!isBelow(t, TEXTS)) {
-            return BAD;
-        }
-        if (texts[t].isMissing()) {
-            return found(NOTHING);
+        int refused = refuseMissing(texts, t);
+        if (refused != 0) {
+            return refused;
         }
         Reader reader = new Reader(texts[t]);
         if (reader.read() != NONE) {
@@ -257,13 +234,11 @@ public final class MilestonesOn {
     }
 
     public int walks(int r) {
-        if (!isBelow(r, ROWS)) {
-            return BAD;
+        int refused = refuseMissing(rows, r);
+        if (refused != 0) {
+            return refused;
         }
         Row one = rows[r];
-        if (one.isMissing()) {
-            return found(NOTHING);
-        }
         for (int i = 0; i < one.size; i++) {
             if (!isBelow(one.get(i), road.walkers)) {
                 return found(UNLIKE);
@@ -331,13 +306,11 @@ public final class MilestonesOn {
     }
 
     public int may(int r) {
-        if (!isBelow(r, ROWS)) {
-            return BAD;
+        int refused = refuseMissing(rows, r);
+        if (refused != 0) {
+            return refused;
         }
         Row seen = rows[r];
-        if (seen.isMissing()) {
-            return found(NOTHING);
-        }
         if (seen.size == 0 || seen.size > road.posts) {
             return found(SIZE);
         }
@@ -676,15 +649,30 @@ public final class MilestonesOn {
         return true;
     }
 
-    /** 0 if a ROW tells a STANDING of this ROAD, else what the call is refused with. */
-    private int refuseStanding(int r) {
-        if (!isBelow(r, ROWS)) {
+    /** 0 if a ROW (or a TEXT) is there, else what the call is refused with. */
+    private int refuseMissing(Row[] some, int r) {
+        if (!isBelow(r, some.length)) {
             return BAD;
         }
-        Row one = rows[r];
-        if (one.isMissing()) {
-            return found(NOTHING);
+        return some[r].isMissing() ? found(NOTHING) : 0;
+    }
+
+    /** 0 if there is such a place of a ROW (or a TEXT), else what the call is refused with. */
+    private int refusePlace(Row[] some, int r, int i) {
+        int refused = refuseMissing(some, r);
+        if (refused != 0) {
+            return refused;
         }
+        return some[r].has(i) ? 0 : found(BEYOND);
+    }
+
+    /** 0 if a ROW tells a STANDING of this ROAD, else what the call is refused with. */
+    private int refuseStanding(int r) {
+        int refused = refuseMissing(rows, r);
+        if (refused != 0) {
+            return refused;
+        }
+        Row one = rows[r];
         if (one.size != road.stones) {
             return found(SIZE);
         }
@@ -1099,7 +1087,7 @@ public final class MilestonesOn {
             }
         }
 
-        /** As send(), in one call: calls from here on go as deep as they may. */
+        /** Not by send(): this is the deepest way of calls, and they may go eight deep. */
         void sendRow(int[] row, int n) {
             for (int i = 0; i < n && i < row.length; i++) {
                 Walker one = road.walkerAt(row[i]);
