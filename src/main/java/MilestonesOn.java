@@ -593,11 +593,11 @@ public final class MilestonesOn {
             case 0: return road.numbers[k];
             case 1: return Road.tellPost(standing, k);
             case 2: return road.homes[k];
-            default: return timesMoved(k);
+            default: return allMoves(k);
         }
     }
 
-    private int timesMoved(int k) {
+    private int allMoves(int k) {
         int times = 0;
         for (int i = 0; i < done && i < MOST_WALKS; i++) {
             times += trips[i].timesMoved(k);
@@ -1101,7 +1101,7 @@ public final class MilestonesOn {
             return Road.postOf(moves, k);
         }
 
-        int postOf(int k) {
+        int postNow(int k) {
             return Road.postOf(standing, k);
         }
 
@@ -1187,7 +1187,7 @@ public final class MilestonesOn {
         final void goOneWay(Trip trip, int a, int b) {
             int k = trip.firstOn(a, b, trip.law);
             if (k >= 0) {
-                trip.carry(k, goalFrom(trip.postOf(k), b));
+                trip.carry(k, goalFrom(trip.postNow(k), b));
             }
         }
 
@@ -1209,7 +1209,7 @@ public final class MilestonesOn {
 
         void go(Trip trip) {
             int k = trip.firstOn(start, end, trip.law);
-            int post = trip.postOf(Math.max(k, 0));
+            int post = trip.postNow(Math.max(k, 0));
             int next = nextTo(post, end);
             for (int n = 0; n < LOAD && k >= 0; n++) {
                 trip.carry(k, next);
