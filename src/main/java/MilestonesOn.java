@@ -978,7 +978,7 @@ public final class MilestonesOn {
         }
 
         private void skipBlanks() {
-            while (text.has(place) && text.get(place) == BLANK) {
+            while (place < text.size && text.get(place) == BLANK) {
                 place++;
             }
         }
