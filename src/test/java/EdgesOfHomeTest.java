@@ -208,6 +208,8 @@ public final class EdgesOfHomeTest {
         Edge.of(35, few).road("r3 m10").row(0, 0).asks(0, 1, x -> x.moved(0)).row(0, 1).refuses(NONE, x -> x.moved(0));
         Edge.of(35, few).road("r3 w02").row(0).asks(0, 1, x -> x.moved(0));
         Edge.of(35, few).row(0).asks(0, 1, x -> x.moved(0));
+        Edge.ofTerms(35, "a row of WALKS is a row of WALKERS (any, as often as one likes)").road("r6 m10 w05")
+            .row(0, 4).asks(4, 1, x -> x.moved(0));
         // WALKS that move nothing are no fewer: the fewest alone count
         Edge.of(35, few).road("r3 m10 w12 l01").row(0, 1).asks(1, 1, x -> x.moved(0));
     }
@@ -225,6 +227,10 @@ public final class EdgesOfHomeTest {
             }
             one.finds(NOTHING, x -> who ? x.who(0) : x.moved(0))
                 .finds(NOTHING, x -> who ? x.who(LAST_ROW) : x.moved(LAST_ROW));
+            if (!who) {
+                one = Edge.of(35, "SIZE: not as many as STONES; UNLIKE: no POST, nor NONE.")
+                    .road("r3 m10 m21 m32 w02").row(3, 0, 1, 2);
+            }
             int[][] sizes = {{}, {0, 1}, {0, 1, 2, 0}, new int[60], {3, 1}, {-1}, {0, 1, 2, 9}};
             for (int[] row : sizes) {
                 one.row(0, row).finds(SIZE, x -> who ? x.who(0) : x.moved(0));
@@ -357,7 +363,7 @@ public final class EdgesOfHomeTest {
     /** What was asked ahead, and of what STANDING, LAW or ROAD, makes no difference. */
     private static void oneBehindTheOther() {
         Edge road = Edge.of(Edge.TERMS, "---- 4 bringing home (from as it is; it stays).")
-            .road("r7 m12 m60 m34 w06 c50 b16 t63 l21").row(0, 3, 0, 4).row(1, 2, 1, 5);
+            .road("r7 m12 m60 m34 w06 c50 b16 t63 l21").row(0, 2, 1, 4).row(1, 2, 0, 3);
         List<Consumer<MilestonesOn>> changes = List.of(x -> { }, x -> x.walk(1), x -> x.law(2), x -> x.walk(3),
             x -> {
                 Due.write(x, 1, "r4 m13 m33 m40 w30 c20 b12 t31 l21");

@@ -106,6 +106,8 @@ public final class EdgesOfRoadsTest {
             "r2" + " ".repeat(58), NONE, "r2" + " ".repeat(57) + "m", 60, "r2" + " ".repeat(56) + "w0", 60,
             "r2" + " ".repeat(55) + "w01", NONE, "r2" + " ".repeat(57) + "x", 59,
             " ".repeat(14) + FULL_ROAD + " ".repeat(4), NONE);
+        reads("a sixth STONE, WALKER, a STONE behind a WALKER: its place", "r7 m10 m20 m30 m40 m50  m60", 24,
+            "r7 w01 w01 w01 w01 w01  t10", 24, "r7 m10 w01  m20", 12, "r7 m10 m20 m30 m40 m50 w01 m60", 27);
         reads("A FAULT is the first place at which it can't go on so", "r9 m90 x", 1, "r3 m93 w33", 5, "r3 x y", 3);
     }
 

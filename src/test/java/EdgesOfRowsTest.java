@@ -9,6 +9,7 @@ public final class EdgesOfRowsTest {
 
     public static void main(String[] args) {
         terms();
+        order();
         newObject();
         newObjectTells();
         row();
@@ -70,6 +71,19 @@ public final class EdgesOfRowsTest {
             .finds(4, x -> x.mean(0)).finds(5, x -> x.text(0, -1)).finds(5, x -> x.may(0)).finds(5, x -> x.who(2));
         Edge.of(Edge.TERMS, "Sets are told by bits.").road("r7 m10 w01 w12 w01 w12 w01").row(0, 0).row(1, 1)
             .takes(126, x -> x.may(0)).takes(1, x -> x.may(1)).takes(21, x -> x.who(1));
+    }
+
+    private static void order() {
+        Edge order = Edge.of(Edge.TERMS, "Refused is, the first of these that fits, in this order: BAD -1");
+        order.refuses(BAD, x -> x.keep(3)).refuses(BAD, x -> x.look(4)).refuses(BAD, x -> x.way(6))
+            .refuses(BAD, x -> x.earn(0)).refuses(BAD, x -> x.row(6, -1)).refuses(BAD, x -> x.text(4, -1))
+            .refuses(BAD, x -> x.years(0, 1)).refuses(BAD, x -> x.odds(0, 0, 5)).refuses(BAD, x -> x.on(3));
+        order.road("r7m75m41m26m16m66l10p51w56b60").refuses(Edge.SPENT, x -> x.way(0)).refuses(BAD, x -> x.way(6));
+        Edge full = order.road("r2 m10 b01").row(0, new int[LONGEST]).given(x -> x.walks(0)).row(1, 1).row(2, 0);
+        full.refuses(Edge.FULL, x -> x.walk(0)).refuses(BAD, x -> x.walk(1)).refuses(BAD, x -> x.mark(1, 1));
+        Edge.of(Edge.TERMS, "unless a call says so otherwise");
+        full.finds(Edge.UNLIKE, x -> x.walks(1)).finds(NOTHING, x -> x.walks(3)).refuses(Edge.FULL, x -> x.walks(2))
+            .finds(NOTHING, x -> x.road(1)).given(x -> x.text(1, 0)).refuses(STATE, x -> x.road(1));
     }
 
     private static void newObject() {

@@ -238,7 +238,8 @@ public final class EdgesOfTellingTest {
 
     private static void digestOfFull() {
         String road = "r7m16m26m36m76m96b60b60b60b60b60" + " ".repeat(28);
-        Edge full = Edge.of(45, "of each WALK done its WALKER").road(road);
+        Edge full = Edge.of(45, "of each STONE stone() 0 to 3; of each WALKER walker() 0 to 3; of each WALK done its WALKER")
+            .road(road);
         List<Integer> due = new ArrayList<>();
         // the BOTH takes the 1 to POST 5, and back to 6 from there: 60 times, by each WALKER in turn
         addAll(due, 7, 5, 0, 5, 60, 5, 6, 4, 0, 0);

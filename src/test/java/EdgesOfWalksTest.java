@@ -184,6 +184,9 @@ public final class EdgesOfWalksTest {
             .walked(0, 1, 2).given(x -> x.law(2)).given(x -> x.undo(1))
             .asks(1, 1, x -> x.walker(0, 3)).asks(1, 0, x -> x.walker(1, 3)).asks(1, 0, x -> x.walker(2, 3))
             .asks(1, 1, x -> x.stone(0, 3)).asks(1, 0, x -> x.stone(1, 3)).takes(2, x -> x.law(0));
+        Edge.of(18, "(What they paid, moved, too").road("r6 m10 w05 b01").walked(0, 0).given(x -> x.undo(0))
+            .walked(0).asks(1, 1, x -> x.stone(0, 3)).asks(1, 1, x -> x.walker(0, 3)).given(x -> x.undo(0))
+            .walked(1).asks(1, 2, x -> x.stone(0, 3)).asks(1, 2, x -> x.walker(1, 3)).asks(1, 0, x -> x.walker(0, 3));
         walkedOften(Edge.of(18, from).road("r2 m10 b01"), MOST)
             .takes(60, x -> x.undo(0)).takes(1, x -> x.undo(59)).takes(0, x -> x.undo(60)).refuses(BAD, x -> x.undo(61));
         Edge.of(18, from).takes(0, x -> x.undo(0)).refuses(BAD, x -> x.undo(1)).refuses(BAD, x -> x.undo(-1));
