@@ -48,7 +48,7 @@ final class Edge {
 
     /** A sentence (or its part) of a promise's own section, or of the terms. */
     static Edge of(int promise, String sentence) {
-        if (!section(promise).contains(sentence)) {
+        if (isDocumentThere() && !section(promise).contains(sentence)) {
             fail(promise, sentence, "is not what the document says there");
         }
         return new Edge(promise, sentence, x -> { });
@@ -230,11 +230,16 @@ final class Edge {
 
     // ---- the document
 
-    private static String section(int promise) {
+    /** Without the document the calls are held all the same; only the quotes can't be looked up. */
+    private static boolean isDocumentThere() {
         if (sections == null) {
             sections = read();
         }
-        return promise < sections.length ? sections[promise] : "";
+        return sections.length > 0;
+    }
+
+    private static String section(int promise) {
+        return isDocumentThere() && promise < sections.length ? sections[promise] : "";
     }
 
     private static String[] read() {
