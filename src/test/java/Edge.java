@@ -32,6 +32,7 @@ final class Edge {
     private static final int TOLD = -77;
 
     private static final Map<Integer, Set<String>> seen = new TreeMap<>();
+    private static final Map<Integer, Set<String>> quoted = new TreeMap<>();
     private static String[] sections = null;
     private static int held = 0;
     private static int wrong = 0;
@@ -51,6 +52,7 @@ final class Edge {
         if (isDocumentThere() && !section(promise).contains(sentence)) {
             fail(promise, sentence, "is not what the document says there");
         }
+        quoted.computeIfAbsent(promise, p -> new TreeSet<>()).add(sentence);
         return new Edge(promise, sentence, x -> { });
     }
 
@@ -230,15 +232,21 @@ final class Edge {
 
     // ---- the document
 
+    /** All that was quoted of a promise's section so far. */
+    static Set<String> quotesOf(int promise) {
+        return quoted.getOrDefault(promise, Set.of());
+    }
+
     /** Without the document the calls are held all the same; only the quotes can't be looked up. */
-    private static boolean isDocumentThere() {
+    static boolean isDocumentThere() {
         if (sections == null) {
             sections = read();
         }
         return sections.length > 0;
     }
 
-    private static String section(int promise) {
+    /** A promise's section, its blanks made one each; 0 is all that comes ahead of promise 1. */
+    static String section(int promise) {
         return isDocumentThere() && promise < sections.length ? sections[promise] : "";
     }
 

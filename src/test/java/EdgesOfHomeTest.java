@@ -193,7 +193,8 @@ public final class EdgesOfHomeTest {
     // ---- 35: moved
 
     private static void moved() {
-        String few = "the fewest WALKS (0 .. 4) that lead there; in how many rows of so many by asked(). NONE: none.";
+        String few = "From as it is to a STANDING (a ROW of POSTS, NONE: LOST): the fewest WALKS (0 .. 4) that lead "
+            + "there; in how many rows of so many by asked(). NONE: none.";
         Edge five = Edge.of(35, few).road(FIVE_ALIKE);
         int[] rows = {1, 5, 25, 125, 625};
         for (int n = 0; n <= 4; n++) {
@@ -221,7 +222,8 @@ public final class EdgesOfHomeTest {
     private static void movedRefuses() {
         for (int promise = 35; promise <= 36; promise++) {
             boolean who = promise == 36;
-            Edge one = Edge.of(promise, "BAD; NOTHING; SIZE").road("r3 m10 m21 m32 w02").row(3, 0, 1, 2);
+            Edge one = Edge.of(promise, who ? "BAD; NOTHING; SIZE; UNLIKE." : "BAD; NOTHING; SIZE")
+                .road("r3 m10 m21 m32 w02").row(3, 0, 1, 2);
             for (int r : new int[] {-1, 6, MAX, MIN}) {
                 one.refuses(BAD, x -> who ? x.who(r) : x.moved(r));
             }

@@ -76,6 +76,8 @@ public final class EdgesOfRoadsTest {
             "r2 m00", 4, "r2 m10", NONE, "r2 m90", NONE, "r2 m:0", 4, "r2 m/0", 4, "r2 m-1", 4, "r2 m100", 6,
             "r2 m10 m10", 8, "r2 m10 m11", 8, "r7 m90 m80 m70 m60 m90", 20, "r7 m90 m80 m70 m60 m60", 20,
             "r7 m90 m80 m70 m60 m50", NONE, "r2 mm10", 4);
+        reads("then STONES (none, or 5 at most; 0, 1, .. as they come): m (109), its NUMBER",
+            "r2 m10", NONE, "r2 n10", 3, "r2 M10", 3, "r2 \u00ed10", 3, "r2 m10 m21", NONE);
         reads("its POST (one figure)",
             "r2 m10", NONE, "r2 m11", NONE, "r2 m12", 5, "r7 m16", NONE, "r7 m17", 5, "r7 m19", 5, "r3 m13", 5,
             "r3 m12", NONE, "r3 m1/", 5, "r3 m1m", 5, "r3 m122", 6);
@@ -155,7 +157,8 @@ public final class EdgesOfRoadsTest {
         Edge.of(11, "A ROAD by a TEXT").road("r3 m10").given(x -> x.put(0, 1, '2')).given(x -> x.put(0, 3, 'x'))
             .takes(3, x -> x.count(0)).takes(1, x -> x.count(1)).refuses(STATE, x -> x.road(0));
         Edge.of(11, "A ROAD by a TEXT").text(0, "r3 m10").takes(0, x -> x.count(0)).takes(0, x -> x.count(1));
-        Edge.ofTerms(11, "A ROAD (without POSTS at first)").takes(0, x -> x.count(0)).refuses(STATE, x -> x.look(0));
+        Edge.ofTerms(11, "A ROAD (without POSTS at first) is a TEXT").takes(0, x -> x.count(0))
+            .refuses(STATE, x -> x.look(0)).text(3, "r5").takes(5, x -> x.road(3) + x.count(0));
     }
 
     // ---- 12: stone
@@ -230,15 +233,19 @@ public final class EdgesOfRoadsTest {
             .refuses(BAD, x -> x.mark(MIN, 1)).refuses(BAD, x -> x.mark(2, 0)).refuses(BAD, x -> x.mark(0, 6))
             .finds(UNLIKE, x -> x.mark(0, 1)).finds(UNLIKE, x -> x.mark(0, 5)).stays(1, x -> x.mark(1, 1));
         Edge.of(14, "BAD: also KIND 0").refuses(BAD, x -> x.mark(0, 1)).road("r3 m10").refuses(BAD, x -> x.mark(0, 1));
-        String kinds = "0 WALKER, 1 CART (a WALKER), 2 BOTH (a WALKER), 3 LAME (a WALKER), 4 THIEF (a LAME), "
+        String kinds = "KINDS of WALKERS: 0 WALKER, 1 CART (a WALKER), 2 BOTH (a WALKER), 3 LAME (a WALKER), 4 THIEF (a LAME), "
             + "5 PILGRIM (a BOTH)";
+        String is = "What a WALKER that IS of a KIND tells:";
+        Edge.of(14, is).road("r5 m11 m41 t13 l13 p13 b13").stays(2, x -> x.mark(0, 3)).stays(4, x -> x.mark(0, 4))
+            .stays(2, x -> x.mark(1, 3)).finds(UNLIKE, x -> x.mark(1, 4)).stays(2, x -> x.mark(2, 2))
+            .stays(4, x -> x.mark(2, 5)).stays(2, x -> x.mark(3, 2)).finds(UNLIKE, x -> x.mark(3, 5));
         String letters = "wcbltp";
-        int[] is = {0, 1 << 1, 1 << 2, 1 << 3, 1 << 3 | 1 << 4, 1 << 2 | 1 << 5};
+        int[] kindsOf = {0, 1 << 1, 1 << 2, 1 << 3, 1 << 3 | 1 << 4, 1 << 2 | 1 << 5};
         for (int own = 0; own < 6; own++) {
             Edge one = Edge.ofTerms(14, kinds).road("r3 m10 m21 " + letters.charAt(own) + "02");
             for (int asked = 1; asked <= 5; asked++) {
                 int kind = asked;
-                if ((is[own] >> kind & 1) == 0) {
+                if ((kindsOf[own] >> kind & 1) == 0) {
                     one.finds(UNLIKE, x -> x.mark(0, kind));
                 } else {
                     one.takes(1, x -> x.mark(0, kind) >= 0 ? 1 : 0);
@@ -296,6 +303,10 @@ public final class EdgesOfRoadsTest {
     }
 
     private static void lawOfTaking() {
+        String of = "LAWS (0 at first) of which STONE is taken of those at a POST:";
+        Edge near = Edge.ofTerms(15, of).road("r7 m51 m12 m92 m80 w16");
+        near.takes(5, x -> x.pays(0)).given(x -> x.law(1)).takes(5, x -> x.pays(0));
+        near.given(x -> x.law(2)).takes(5, x -> x.pays(0));
         String taken = "0 that of the least NUMBER, 1 of the greatest";
         Edge both = Edge.ofTerms(15, taken).road("r3 m50 m10 m90 m41 w02");
         both.takes(1, x -> x.pays(0)).given(x -> x.law(1)).takes(9, x -> x.pays(0));

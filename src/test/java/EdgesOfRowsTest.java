@@ -48,6 +48,7 @@ public final class EdgesOfRowsTest {
                 }
                 return x.findings(NOTHING);
             });
+        Edge.of(Edge.TERMS, "; what later calls answer is free.").takes(1, EdgesOfRowsTest::goesOn);
         Edge.of(Edge.TERMS, "BAD -1 (a number that is none, or not as told), FULL -2, STATE -4 (not now), SPENT -6 "
             + "(more than told), FINDING -3 (finding() tells which)")
             .takes(-1, x -> MilestonesOn.BAD)
@@ -71,6 +72,30 @@ public final class EdgesOfRowsTest {
             .finds(4, x -> x.mean(0)).finds(5, x -> x.text(0, -1)).finds(5, x -> x.may(0)).finds(5, x -> x.who(2));
         Edge.of(Edge.TERMS, "Sets are told by bits.").road("r7 m10 w01 w12 w01 w12 w01").row(0, 0).row(1, 1)
             .takes(126, x -> x.may(0)).takes(1, x -> x.may(1)).takes(21, x -> x.who(1));
+    }
+
+    /** Later calls may answer anything, but each must end, and none may throw. */
+    private static long goesOn(MilestonesOn x) {
+        Due.write(x, 0, "r7 m10 m21 m36 m46 m52 w06 c60 b25 t65 p41");
+        for (int i = 0; i < 3 * 512; i++) {
+            int v = i % 9 - 1;
+            x.road(i % 97 == 0 ? 0 : -1);
+            x.row(v, 9 * v);
+            x.lay(v, i % 11, i);
+            x.copy(v, 0, 5 - v, 1, i % 7);
+            x.walk(v);
+            x.walks(v);
+            x.undo(i % 61);
+            x.keep(v);
+            x.on(v);
+            x.earn(v);
+            x.years(i, i);
+            x.where(v);
+            x.who(v);
+            x.way(v);
+            x.digest();
+        }
+        return 1;
     }
 
     private static void order() {

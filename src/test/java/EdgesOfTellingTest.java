@@ -293,7 +293,7 @@ public final class EdgesOfTellingTest {
     }
 
     private static void digestStays() {
-        Edge.of(45, "what it tells, not the 1 that it answers; asked() stays").road(ROAD).stays(TOLD, x -> {
+        Edge.of(45, "(of a call that tells by asked(): what it tells, not the 1 that it answers; asked() stays)").road(ROAD).stays(TOLD, x -> {
             x.digest();
             return x.asked();
         }).takes(0, x -> x.digest() - x.digest());

@@ -66,8 +66,8 @@ public final class EdgesOfWalksTest {
     }
 
     private static void walkOfWalker() {
-        String first = "at the first POST on the way (a, .., the one ahead of b) at which a STONE is, one STONE (by "
-            + "the LAW) is taken to the next POST on the way, and set down";
+        String first = "A WALK of a WALKER from POST a to POST b: at the first POST on the way (a, .., the one ahead of "
+            + "b) at which a STONE is, one STONE (by the LAW) is taken to the next POST on the way, and set down";
         walks(first, "r7 m20 m31 w06", 0, 2, 1, 1);
         walks(first, "r7 m25 m36 w06", 0, 2, 6, 6);
         walks(first, "r7 m23 m34 w14", 0, 2, 4, 4);
@@ -189,7 +189,8 @@ public final class EdgesOfWalksTest {
             .walked(1).asks(1, 2, x -> x.stone(0, 3)).asks(1, 2, x -> x.walker(1, 3)).asks(1, 0, x -> x.walker(0, 3));
         walkedOften(Edge.of(18, from).road("r2 m10 b01"), MOST)
             .takes(60, x -> x.undo(0)).takes(1, x -> x.undo(59)).takes(0, x -> x.undo(60)).refuses(BAD, x -> x.undo(61));
-        Edge.of(18, from).takes(0, x -> x.undo(0)).refuses(BAD, x -> x.undo(1)).refuses(BAD, x -> x.undo(-1));
+        Edge.of(18, "the LAW stays.) BAD.").takes(0, x -> x.undo(0)).refuses(BAD, x -> x.undo(1))
+            .refuses(BAD, x -> x.undo(-1)).refuses(BAD, x -> x.undo(NONE));
     }
 
     // ---- 19: walks
@@ -258,8 +259,8 @@ public final class EdgesOfWalksTest {
         Edge.of(21, far).road("r7 m10 m21 m32 m43 m76").asks(0, 5, x -> x.apart());
         Edge.of(21, far).road("r7 m16 m26 m36 m70 m60").asks(26, 0, x -> x.apart());
         Edge.of(21, far).road("r7 m16 m76 m80 m96").asks(6, 1, x -> x.apart());
-        String lost = "how far all STONES that have a HOME and are not LOST are from it, together, and 10 for each that "
-            + "is LOST";
+        String lost = "APART: how far all STONES that have a HOME and are not LOST are from it, together, and 10 for "
+            + "each that is LOST";
         Edge.ofTerms(21, lost).road("r7 m10 m90 m72 t01").walked(0).asks(14, 1, x -> x.apart())
             .walked(0).asks(24, 0, x -> x.apart()).walked(0).asks(24, 0, x -> x.apart());
         Edge.ofTerms(21, lost).road("r2 m11 m21 m31 m41 m51 t10").walked(0, 0, 0, 0, 0).asks(50, 0, x -> x.apart());
@@ -389,6 +390,12 @@ public final class EdgesOfWalksTest {
             .refuses(BAD, x -> x.standings(3, 2));
         Edge.of(26, many).road("r2 w01").asks(1, 1, x -> x.standings(0, 0)).asks(1, 1, x -> x.standings(3, 1));
         Edge.of(26, "BAD.").refuses(BAD, x -> x.standings(0, 0)).refuses(BAD, x -> x.standings(4, 0));
+        // the first and the third pay, the second moves nothing: it stands as it stood
+        Edge.ofTerms(26, "A STANDING is where all STONES are;").road("r4 m10 b01 w12 p01").asks(1, 1, x -> x.standings(1, 0))
+            .asks(1, 1, x -> x.standings(3, 0)).asks(1, 0, x -> x.all());
+        // one STONE is at each POST then and now, but not the same one
+        Edge.ofTerms(26, "A STANDING is where all STONES are;").road("r2 m10 m21 b01 w10").given(x -> x.law(1))
+            .asks(2, 1, x -> x.standings(1, 0)).row(0, 1, 0).asks(1, 1, x -> x.moved(0));
         // what is seen at 0 is 1 then and now, though the 2 is gone from there
         Edge.of(26, "sees() answers the same").road("r2 m10 m20 c10 t01").asks(2, 2, x -> x.standings(1, 0));
     }

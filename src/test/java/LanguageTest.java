@@ -6,7 +6,9 @@ import java.nio.file.Files;
 import java.nio.file.Path;
 import java.util.ArrayList;
 import java.util.List;
+import java.util.Map;
 import java.util.Set;
+import java.util.TreeMap;
 import java.util.TreeSet;
 import java.util.regex.Matcher;
 import java.util.regex.Pattern;
@@ -27,7 +29,10 @@ public final class LanguageTest {
     private static final String[] FORBIDDEN = {"throw", "throws", "try", "catch", "finally", "synchronized",
         "assert", "var", "volatile", "native", "Object", "Thread", "Random", "HashMap", "Map", "Set", "Character",
         "Override", "hashCode", "toString", "protected"};
-    private static final int MOST_CLASSES = 12, MOST_FIELDS = 20, MOST_PARAMETERS = 7, MOST_LINES = 60;
+    private static final int MOST_CLASSES = 12, MOST_FIELDS = 20, MOST_PARAMETERS = 7, MOST_LINES = 60,
+        MOST_DEEP = 8;
+
+    private static final String SUPER = "super.";
 
     private static int wrong = 0;
 
@@ -45,6 +50,8 @@ public final class LanguageTest {
         classes();
         words(code);
         lengths(code);
+        depths(code);
+        sameAnswers();
         System.out.println(wrong == 0 ? "the rules hold" : wrong + " rules are broken");
         if (wrong != 0) System.exit(1);
     }
@@ -140,5 +147,107 @@ public final class LanguageTest {
                 from = -1;
             }
         }
+    }
+
+    // ---- how deep calls go
+
+    /** By names alone: a call may be of any method that bears its name, so what is counted is never too little. */
+    private static void depths(String code) {
+        Map<String, List<Set<String>>> calls = callsOf(code);
+        hold(calls.size() > 100, "methods were found: " + calls.size());
+        for (Method m : MilestonesOn.class.getDeclaredMethods()) {
+            if (Modifier.isPublic(m.getModifiers())) {
+                int deep = depthOf(m.getName(), calls, 0);
+                hold(deep <= MOST_DEEP, m.getName() + "() goes " + deep + " calls deep");
+            }
+        }
+    }
+
+    private static int depthOf(String name, Map<String, List<Set<String>>> calls, int open) {
+        if (open > 2 * MOST_DEEP) {
+            return open;
+        }
+        int deepest = 0;
+        for (Set<String> called : calls.getOrDefault(name, List.of())) {
+            for (String next : called) {
+                deepest = Math.max(deepest, depthOf(next, calls, open + 1));
+            }
+        }
+        return deepest + 1;
+    }
+
+    /** The names that each method calls, for each method of a name. */
+    private static Map<String, List<Set<String>>> callsOf(String code) {
+        Map<String, String> bodies = new TreeMap<>();
+        String method = "(?m)^( {4}| {8})(?=\\S)[\\w\\[\\] ]*?\\b(\\w+)\\([^;{}]*\\) \\{$((?s:.*?))^\\1\\}$";
+        Matcher heads = Pattern.compile(method).matcher(code);
+        int from = 0;
+        int many = 0;
+        while (heads.find(from)) {
+            bodies.put(heads.group(2) + " " + many++, heads.group(3));
+            from = heads.end();
+        }
+        Set<String> names = new TreeSet<>();
+        bodies.keySet().forEach(key -> names.add(key.split(" ")[0]));
+        Map<String, List<Set<String>>> calls = new TreeMap<>();
+        bodies.forEach((key, body) -> {
+            Set<String> called = new TreeSet<>();
+            Matcher uses = Pattern.compile("(super\\.)?\\b(\\w+)\\(").matcher(body);
+            while (uses.find()) {
+                String use = uses.group(2);
+                if (uses.group(1) != null) {
+                    called.add(SUPER + use);
+                } else if (names.contains(use) || use.matches("max|min|abs|fill|arraycopy")) {
+                    called.add(use);
+                }
+            }
+            calls.computeIfAbsent(key.split(" ")[0], k -> new ArrayList<>()).add(called);
+        });
+        addSupers(calls);
+        return calls;
+    }
+
+    /** What stands above may call all that its name calls, and once more what stands above it. */
+    private static void addSupers(Map<String, List<Set<String>>> calls) {
+        for (String name : List.copyOf(calls.keySet())) {
+            Set<String> above = new TreeSet<>();
+            calls.get(name).forEach(above::addAll);
+            if (above.remove(SUPER + name)) {
+                above.add(SUPER + SUPER + name);
+                calls.put(SUPER + name, List.of(above));
+            }
+        }
+    }
+
+    // ---- the same calls give the same answers
+
+    /** Whatever another object is asked in between: there is no state but the object's own. */
+    private static void sameAnswers() {
+        MilestonesOn alone = new MilestonesOn();
+        MilestonesOn one = new MilestonesOn();
+        MilestonesOn other = new MilestonesOn();
+        answers(other, "r4 m12 m30 m93 l21 l10 t32 b03 w03");
+        List<Long> first = answers(alone, "r7 m11 m51 m75 m33 w30 w16 p30 b41 c12");
+        answers(other, "r3 m11 m91 l10 c10 w10");
+        List<Long> again = answers(one, "r7 m11 m51 m75 m33 w30 w16 p30 b41 c12");
+        hold(first.equals(again), "the same calls give the same answers: " + first + ", " + again);
+        hold(answers(other, "r7 m11 m51 m75 m33 w30 w16 p30 b41 c12").subList(0, 20).equals(first.subList(0, 20)),
+            "an object with another past answers the same on the same road");
+    }
+
+    private static List<Long> answers(MilestonesOn x, String road) {
+        List<Long> all = new ArrayList<>();
+        Due.write(x, 0, road);
+        all.add((long) x.road(0));
+        for (int i = 0; i < 8; i++) {
+            long[] told = {x.walk(i % 3), x.fewest(), x.asked(), x.best(), x.asked(), x.all(), x.asked(), x.nearest(),
+                x.asked(), x.earn(3), x.asked(), x.look(2), x.asked(), x.years(9, i + 1), x.asked(), x.where(1),
+                x.undo(i / 2), x.moved(1), x.who(1), x.law(i % 3), x.keep(0), x.odds(0, 1, 2), x.upper(), x.lower()};
+            for (long v : told) {
+                all.add(v);
+            }
+        }
+        all.add(x.digest());
+        return all;
     }
 }
