@@ -18,8 +18,8 @@ public final class DocumentTest {
     private static final Path SOURCE = Path.of("src/main/java/MilestonesOn.java");
     private static final Pattern BLOCK = Pattern.compile("## The public face ```java (.*?) ```");
     private static final Pattern CALL = Pattern.compile("public (?:int|long) (\\w+)\\([^)]*\\);");
-    private static final Pattern HEADING = Pattern.compile(
-        "Ahead of the calls ((?:`\\w+`(?:, )?)+) the interface says: (---- \\d [a-z, ]+?)(?: \\(from as it is; it stays\\))?\\.");
+    private static final Pattern HEADING =
+        Pattern.compile("Ahead of the calls ([`\\w, ]+) the interface says: (---- \\d [a-z, ]*[a-z])");
 
     /** What the document says ahead of its promises, and what of it no call can break. */
     private static final List<Pattern> TELLS_NOTHING_MORE = List.of(
@@ -51,7 +51,8 @@ public final class DocumentTest {
         for (int promise = 1; promise <= PROMISES; promise++) {
             quoted(promise, withoutHead(promise));
         }
-        hold(Edge.section(PROMISES + 1).contains("How the state is held inside the object is free"), "'Not promised' is last");
+        hold(Edge.section(PROMISES + 1).startsWith(" How the state is held inside the object is free"),
+            "behind the promises comes what is not promised");
         System.out.println(wrong == 0 ? "each sentence has its test" : wrong + " places of the document have no test");
         if (wrong != 0) System.exit(1);
     }
@@ -64,14 +65,7 @@ public final class DocumentTest {
             hold(one.matcher(terms).find(), "the document has " + one);
             terms = one.matcher(terms).replaceAll(" ");
         }
-        Matcher headings = HEADING.matcher(terms);
-        StringBuilder rest = new StringBuilder();
-        while (headings.find()) {
-            boolean more = headings.group().contains("it stays");
-            headings.appendReplacement(rest, more ? Matcher.quoteReplacement(headings.group(2) + " (from as it is; it stays).") : "");
-        }
-        headings.appendTail(rest);
-        quoted(Edge.TERMS, rest.toString());
+        quoted(Edge.TERMS, HEADING.matcher(terms).replaceAll("$2").replaceAll("---- \\d [a-z, ]+\\.", ""));
     }
 
     private static String withoutHead(int promise) {
@@ -104,9 +98,11 @@ public final class DocumentTest {
         Matcher block = BLOCK.matcher(Edge.section(Edge.TERMS));
         hold(block.find(), "there is a public face");
         String code = block.group(1);
-        hold(code.startsWith("public final class MilestonesOn { public static final int BAD = " + MilestonesOn.BAD
-            + ", FULL = " + MilestonesOn.FULL + ", FINDING = " + MilestonesOn.FINDING + ", STATE = " + MilestonesOn.STATE
-            + ", SPENT = " + MilestonesOn.SPENT + ", NONE = " + MilestonesOn.NONE + "; public MilestonesOn();"), "the constants");
+        String constants = "BAD = " + MilestonesOn.BAD + ", FULL = " + MilestonesOn.FULL + ", FINDING = "
+            + MilestonesOn.FINDING + ", STATE = " + MilestonesOn.STATE + ", SPENT = " + MilestonesOn.SPENT + ", NONE = "
+            + MilestonesOn.NONE + ";";
+        hold(code.startsWith("public final class MilestonesOn { public static final int " + constants
+            + " public MilestonesOn();"), "the constants are " + constants);
         Set<String> due = new TreeSet<>();
         List<String> names = new ArrayList<>();
         Matcher calls = CALL.matcher(code);
@@ -152,7 +148,8 @@ public final class DocumentTest {
         for (int i = 0; i < face.size(); i++) {
             String name = face.get(i);
             String section = Edge.section(i + 2);
-            hold(section.matches(name + " `(int|long) " + name + "\\([^)]*\\)`: .*"), "promise " + (i + 2) + " is " + name);
+            hold(section.matches(name + " `(int|long) " + name + "\\([^)]*\\)`: .*"),
+                "promise " + (i + 2) + " is " + name);
         }
     }
 }

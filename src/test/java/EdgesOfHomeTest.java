@@ -317,8 +317,8 @@ public final class EdgesOfHomeTest {
             .refuses(BAD, x -> x.years(1, -1)).refuses(BAD, x -> x.years(1, MAX)).refuses(BAD, x -> x.years(1, MIN))
             .refuses(BAD, x -> x.years(201, 0));
         String post = "how far APART all are then; the POST with most STONES (the first) by asked(). (It stays.)";
-        Edge.of(38, post).road("r7 m10 m20 w06").asks(2, 0, x -> x.years(1, 5)).asks(1, 1, x -> x.years(2, 5)).asks(11, 6, x -> x.years(12, 5))
-            .asks(11, 6, x -> x.years(200, 5)).asks(9, 5, x -> x.years(10, 5)).asks(10, 5, x -> x.years(11, 5));
+        Edge.of(38, post).road("r7 m10 m20 w06").asks(2, 0, x -> x.years(1, 5)).asks(1, 1, x -> x.years(2, 5))
+            .asks(11, 6, x -> x.years(12, 5)).asks(11, 6, x -> x.years(200, 5)).asks(9, 5, x -> x.years(10, 5)).asks(10, 5, x -> x.years(11, 5));
         Edge.of(38, post).road("r7 m10 t01").asks(10, 0, x -> x.years(1, 1)).asks(10, 0, x -> x.years(200, 1));
         Edge.of(38, post).road("r7 w01").asks(0, 0, x -> x.years(200, LAST_SEED));
         Edge.of(38, post).road("r7 m16 m26 m35 m45 w01").asks(16, 5, x -> x.years(7, 7));

@@ -233,8 +233,8 @@ public final class EdgesOfRoadsTest {
             .refuses(BAD, x -> x.mark(MIN, 1)).refuses(BAD, x -> x.mark(2, 0)).refuses(BAD, x -> x.mark(0, 6))
             .finds(UNLIKE, x -> x.mark(0, 1)).finds(UNLIKE, x -> x.mark(0, 5)).stays(1, x -> x.mark(1, 1));
         Edge.of(14, "BAD: also KIND 0").refuses(BAD, x -> x.mark(0, 1)).road("r3 m10").refuses(BAD, x -> x.mark(0, 1));
-        String kinds = "KINDS of WALKERS: 0 WALKER, 1 CART (a WALKER), 2 BOTH (a WALKER), 3 LAME (a WALKER), 4 THIEF (a LAME), "
-            + "5 PILGRIM (a BOTH)";
+        String kinds = "KINDS of WALKERS: 0 WALKER, 1 CART (a WALKER), 2 BOTH (a WALKER), 3 LAME (a WALKER), 4 THIEF "
+            + "(a LAME), 5 PILGRIM (a BOTH)";
         String is = "What a WALKER that IS of a KIND tells:";
         Edge.of(14, is).road("r5 m11 m41 t13 l13 p13 b13").stays(2, x -> x.mark(0, 3)).stays(4, x -> x.mark(0, 4))
             .stays(2, x -> x.mark(1, 3)).finds(UNLIKE, x -> x.mark(1, 4)).stays(2, x -> x.mark(2, 2))

@@ -293,7 +293,8 @@ public final class EdgesOfTellingTest {
     }
 
     private static void digestStays() {
-        Edge.of(45, "(of a call that tells by asked(): what it tells, not the 1 that it answers; asked() stays)").road(ROAD).stays(TOLD, x -> {
+        String tells = "(of a call that tells by asked(): what it tells, not the 1 that it answers; asked() stays)";
+        Edge.of(45, tells).road(ROAD).stays(TOLD, x -> {
             x.digest();
             return x.asked();
         }).takes(0, x -> x.digest() - x.digest());

@@ -299,7 +299,8 @@ public final class EdgesOfWalksTest {
         kept.given(x -> x.on(2)).lays(1, 0, new int[] {NONE, 1}, x -> x.where(0)).takes(2, x -> x.law(0))
             .takes(1, x -> x.on(0));
         kept.given(x -> x.keep(0)).given(x -> x.on(0)).lays(1, 0, new int[] {NONE, 2}, x -> x.where(0));
-        walkedOften(first, MOST).refuses(FULL, x -> x.walk(0)).given(x -> x.on(0)).takes(1, x -> x.walk(0) > 0 ? x.count(4) : 0);
+        walkedOften(first, MOST).refuses(FULL, x -> x.walk(0)).given(x -> x.on(0))
+            .takes(1, x -> x.walk(0) > 0 ? x.count(4) : 0);
         kept.text(1, "r9").refuses(STATE, x -> x.road(1)).given(x -> x.road(1)).takes(1, x -> x.on(0));
         kept.given(x -> x.road(0)).finds(NOTHING, x -> x.on(0)).finds(NOTHING, x -> x.on(2));
         one.road("r2").given(x -> x.keep(1)).stays(1, x -> x.on(1));
@@ -391,10 +392,10 @@ public final class EdgesOfWalksTest {
         Edge.of(26, many).road("r2 w01").asks(1, 1, x -> x.standings(0, 0)).asks(1, 1, x -> x.standings(3, 1));
         Edge.of(26, "BAD.").refuses(BAD, x -> x.standings(0, 0)).refuses(BAD, x -> x.standings(4, 0));
         // the first and the third pay, the second moves nothing: it stands as it stood
-        Edge.ofTerms(26, "A STANDING is where all STONES are;").road("r4 m10 b01 w12 p01").asks(1, 1, x -> x.standings(1, 0))
-            .asks(1, 1, x -> x.standings(3, 0)).asks(1, 0, x -> x.all());
+        String standing = "A STANDING is where all STONES are;";
+        Edge.ofTerms(26, standing).road("r4 m10 b01 w12 p01").asks(1, 1, x -> x.standings(1, 0)).asks(1, 1, x -> x.standings(3, 0)).asks(1, 0, x -> x.all());
         // one STONE is at each POST then and now, but not the same one
-        Edge.ofTerms(26, "A STANDING is where all STONES are;").road("r2 m10 m21 b01 w10").given(x -> x.law(1))
+        Edge.ofTerms(26, standing).road("r2 m10 m21 b01 w10").given(x -> x.law(1))
             .asks(2, 1, x -> x.standings(1, 0)).row(0, 1, 0).asks(1, 1, x -> x.moved(0));
         // what is seen at 0 is 1 then and now, though the 2 is gone from there
         Edge.of(26, "sees() answers the same").road("r2 m10 m20 c10 t01").asks(2, 2, x -> x.standings(1, 0));
